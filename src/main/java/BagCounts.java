@@ -90,7 +90,7 @@ public final class BagCounts {
     // ---- what follows; nothing changes
 
     public int isPossible() {
-        return logic.canAllHold(facts.all()) ? 1 : 0;
+        return logic.canHold(facts.all()) ? 1 : 0;
     }
 
     public int bound(int bag, int kind, int what) {
@@ -107,7 +107,7 @@ public final class BagCounts {
         if (!isBag(bag) || !isKind(kind)) {
             return NO_SUCH;
         }
-        return logic.ofLeastSolution(Search.variable(bag, kind));
+        return logic.inLeastSolution(Search.variable(bag, kind));
     }
 
     public int solutions(int limit) {
@@ -121,20 +121,61 @@ public final class BagCounts {
         if (!facts.ask(form, a, b, c, d, e)) {
             return BAD_VALUE;
         }
-        return logic.verdictOnAsked();
+        if (!logic.canHold(facts.all())) {
+            return NONE;
+        }
+        if (!logic.canFail(Facts.ASKED, facts.all())) {
+            return 1;
+        }
+        return logic.canHold(facts.all() | 1 << Facts.ASKED) ? 2 : 0;
     }
 
     public int contradiction() {
-        return logic.contradicting();
+        int kept = facts.all();
+        if (logic.canHold(kept)) {
+            return NONE;
+        }
+        for (int fact = 0; fact < facts.known; fact++) {
+            int without = kept & ~(1 << fact);
+            if (!logic.canHold(without)) {
+                kept = without;
+            }
+        }
+        return kept;
     }
 
     public int reason(int bag, int kind, int what) {
         int refusal = refusalOfBound(bag, kind, what);
-        return refusal != 0 ? refusal : logic.reasonsFor(Search.variable(bag, kind), what == 1);
+        if (refusal != 0) {
+            return refusal;
+        }
+        int kept = facts.all();
+        int variable = Search.variable(bag, kind);
+        int bound = logic.extreme(kept, variable, what == 1);
+        if (bound == NONE) {
+            return NONE;
+        }
+        for (int fact = 0; fact < facts.known; fact++) {
+            int without = kept & ~(1 << fact);
+            if (logic.extreme(without, variable, what == 1) == bound) {
+                kept = without;
+            }
+        }
+        return kept;
     }
 
     public int needless() {
-        return logic.implied();
+        int all = facts.all();
+        if (!logic.canHold(all)) {
+            return NONE;
+        }
+        int found = 0;
+        for (int fact = 0; fact < facts.known; fact++) {
+            if (!logic.canFail(fact, all & ~(1 << fact))) {
+                found |= 1 << fact;
+            }
+        }
+        return found;
     }
 
     // ---- texts
@@ -571,8 +612,8 @@ public final class BagCounts {
     private static final class Rules {
         static final int LINEAR = 0, TOP = 1, BOTTOM = 2;
         static final int TERMS = 4;
-        /** Ten facts give at most six rules each, a fact's opposite two, and the sizes four. */
-        static final int LIMIT = 72;
+        /** The sizes give at most four rules, the gaps 60, eleven facts four each, and a fact's opposite two. */
+        static final int LIMIT = 128;
 
         private final int[] type = new int[LIMIT];
         private final int[] low = new int[LIMIT];
@@ -593,43 +634,20 @@ public final class BagCounts {
             }
         }
 
-        void open(int newType, int least, int greatest) {
-            if (size >= LIMIT) {
-                return;
+        /** The size of a bag is the sum of its counts. */
+        void total(int bag) {
+            open(LINEAR, 0, 0);
+            for (int kind = 0; kind < KINDS; kind++) {
+                plus(1, Search.variable(bag, kind));
             }
-            type[size] = newType;
-            low[size] = least;
-            high[size] = greatest;
-            mask[size] = 0;
-            terms[size] = 0;
-            size++;
+            plus(-1, Search.variable(bag, Search.SIZES));
         }
 
-        /** Adds a multiple of a variable to the latest rule, which must be a linear one. */
-        void plus(int times, int v) {
-            int rule = size - 1;
-            if (rule < 0) {
-                return;
-            }
-            for (int t = rule * TERMS; t < rule * TERMS + terms[rule]; t++) {
-                if (variable[t] == v) {
-                    factor[t] += times;
-                    return;
-                }
-            }
-            addTerm(times, v);
-        }
-
+        /** The first variable less the other is at least so much. */
         void difference(int greater, int lesser, int least) {
             open(LINEAR, least, MOST_SIZE);
             plus(1, greater);
             plus(-1, lesser);
-        }
-
-        void same(int one, int other) {
-            open(LINEAR, 0, 0);
-            plus(1, one);
-            plus(-1, other);
         }
 
         /** The first variable less the two others is within a range. */
@@ -647,9 +665,36 @@ public final class BagCounts {
             addTerm(1, other);
         }
 
+        private void open(int newType, int least, int greatest) {
+            if (size >= LIMIT) {
+                return;
+            }
+            type[size] = newType;
+            low[size] = least;
+            high[size] = greatest;
+            mask[size] = 0;
+            terms[size] = 0;
+            size++;
+        }
+
+        /** Adds a multiple of a variable to the latest rule; the same variable twice would be narrowed less. */
+        private void plus(int times, int v) {
+            int rule = size - 1;
+            if (rule < 0) {
+                return;
+            }
+            for (int t = rule * TERMS; t < rule * TERMS + terms[rule]; t++) {
+                if (variable[t] == v) {
+                    factor[t] += times;
+                    return;
+                }
+            }
+            addTerm(times, v);
+        }
+
         private void addTerm(int times, int v) {
             int rule = size - 1;
-            if (rule < 0 || terms[rule] >= TERMS || !isWithin(v, 0, Search.VARIABLES - 1)) {
+            if (rule < 0 || terms[rule] >= TERMS || v < 0 || v >= Search.VARIABLES) {
                 return;
             }
             int t = rule * TERMS + terms[rule];
@@ -662,16 +707,19 @@ public final class BagCounts {
     }
 
     /**
-     * Looks for what the variables can be. Each level of the search has its own row of ranges; a step to the next
-     * level gives one more variable a value and narrows the others. Variables that no rule joins any more are
-     * looked at apart from one another, so that one part's many solutions are not gone through for another's lack.
+     * Looks for what the variables can be: the counts, and the sizes if something asks for them. Each level of the
+     * search has its own row of ranges; a step to the next level gives one more variable a value and narrows the
+     * others. Variables that no rule joins any more are looked at apart from one another, so that one part's many
+     * solutions are not gone through for another's lack of one.
      */
     private static final class Search {
         static final int COLUMNS = KINDS + 1;
         /** The column of the sizes, behind those of the kinds. */
         static final int SIZES = KINDS;
         static final int VARIABLES = BAGS * COLUMNS;
-        static final int EVERY = (1 << VARIABLES) - 1;
+        private static final int EVERY = (1 << VARIABLES) - 1;
+        /** The counts of the kind 0, as a set of variables. */
+        private static final int FIRST_KIND = 0x1111;
         private static final int LEVELS = VARIABLES + 1;
         /** More than all values that all variables can lose. */
         private static final int PASSES = 1000;
@@ -679,24 +727,24 @@ public final class BagCounts {
         private final Rules rules = new Rules();
         private final int[] low = new int[LEVELS * VARIABLES];
         private final int[] high = new int[LEVELS * VARIABLES];
-        /** The variables that were narrowed since the last look, as a set. */
+        private boolean withSizes;
+        /** The variables that a pass over the rules has narrowed, as a set. */
         private int narrowed;
 
         static int variable(int bag, int column) {
             return bag * COLUMNS + column;
         }
 
-        void begin(int most) {
+        /** Sizes that nothing asks for would only join the kinds: they stand still, and no rule tells of them. */
+        void begin(int most, boolean hasSizes) {
             rules.clear();
-            for (int bag = 0; bag < BAGS; bag++) {
-                rules.open(Rules.LINEAR, 0, 0);
-                for (int column = 0; column < COLUMNS; column++) {
-                    int v = variable(bag, column);
-                    boolean isSize = column == SIZES;
-                    low[v] = 0;
-                    high[v] = isSize ? KINDS * most : most;
-                    rules.plus(isSize ? -1 : 1, v);
-                }
+            withSizes = hasSizes;
+            for (int v = 0; v < VARIABLES; v++) {
+                low[v] = 0;
+                high[v] = v % COLUMNS != SIZES ? most : hasSizes ? KINDS * most : 0;
+            }
+            for (int bag = 0; bag < BAGS && hasSizes; bag++) {
+                rules.total(bag);
             }
         }
 
@@ -718,52 +766,55 @@ public final class BagCounts {
             return settle(0, EVERY);
         }
 
-        boolean canHold() {
-            return howMany(1) != 0;
+        /** Gives a variable, of which canBe() told that it can have the value, that value for good. */
+        void settleOn(int v, int value) {
+            restrict(v, value, value);
+            settle(0, 1 << v);
         }
 
         int howMany(int limit) {
-            return settleAll() ? ways(this, 0, EVERY, limit) : 0;
+            return settleAll() ? waysFrom(0, limit) : 0;
         }
 
         boolean canBe(int v, int value) {
-            return fix(0, v, value) && ways(this, 1, EVERY, 1) != 0;
+            fix(0, v, value);
+            return settle(1, 1 << v) && waysFrom(1, 1) != 0;
         }
 
-        /** Gives a variable a value for good. */
-        boolean settleOn(int v, int value) {
-            restrict(v, value, value);
-            return settle(0, 1 << v);
+        /** If one kind fails by itself, that shall not be found again for all that the other kinds can be. */
+        private int waysFrom(int level, int limit) {
+            for (int kind = 0; kind < KINDS && withSizes; kind++) {
+                if (ways(this, level, FIRST_KIND << kind, 1) == 0) {
+                    return 0;
+                }
+            }
+            return ways(this, level, EVERY, limit);
         }
 
         /** How many solutions the variables of a set have at a level, up to a limit. */
         private static int ways(Search s, int level, int among, int limit) {
             int open = s.unfixed(level, among);
+            if (level < 0 || level >= LEVELS - 1) {
+                return open == 0 ? 1 : 0;
+            }
             int found = 1;
             for (int i = 0; i < VARIABLES && open != 0; i++) {
                 int part = s.partOf(level, open);
                 open &= ~part;
-                int ofPart = waysOfPart(s, level, part, found >= limit ? 1 : limit);
+                int v = s.choose(level, part);
+                int last = s.high[level * VARIABLES + v];
+                int wanted = found < limit ? limit : 1;
+                int ofPart = 0;
+                for (int value = s.low[level * VARIABLES + v]; value <= last && ofPart < wanted; value++) {
+                    s.fix(level, v, value);
+                    if (s.settle(level + 1, 1 << v)) {
+                        ofPart += ways(s, level + 1, part & ~(1 << v), wanted - ofPart);
+                    }
+                }
                 if (ofPart == 0) {
                     return 0;
                 }
                 found = Math.min(limit, found * ofPart);
-            }
-            return found;
-        }
-
-        private static int waysOfPart(Search s, int level, int part, int limit) {
-            if (level >= LEVELS - 1) {
-                return 0;
-            }
-            int v = s.choose(level, part);
-            int rest = part & ~(1 << v);
-            int cell = level * VARIABLES + v;
-            int found = 0;
-            for (int value = s.low[cell]; value <= s.high[cell] && found < limit; value++) {
-                if (s.fix(level, v, value)) {
-                    found += ways(s, level + 1, rest, limit - found);
-                }
             }
             return found;
         }
@@ -779,7 +830,7 @@ public final class BagCounts {
             return open & among;
         }
 
-        /** The variables that rules join, over others or not, with the first one of a set. */
+        /** The first variable of a set, and those of the set that rules join with it, also over others. */
         private int partOf(int level, int open) {
             int part = open & -open;
             int before = 0;
@@ -797,40 +848,41 @@ public final class BagCounts {
 
         /** The variable with the fewest values, seen against the number of its rules: it fails soonest. */
         private int choose(int level, int part) {
-            int best = -1;
+            int best = 0;
             int bestWidth = 0;
             for (int v = 0; v < VARIABLES; v++) {
                 if ((part & (1 << v)) != 0) {
                     int width = high[level * VARIABLES + v] - low[level * VARIABLES + v] + 1;
-                    if (best < 0 || width * rules.weight[best] < bestWidth * rules.weight[v]) {
+                    if (bestWidth == 0 || width * rules.weight[best] < bestWidth * rules.weight[v]) {
                         best = v;
                         bestWidth = width;
                     }
                 }
             }
-            return Math.max(best, 0);
+            return best;
         }
 
-        /** Gives a variable a value on the next level; false if that can not be. */
-        private boolean fix(int level, int v, int value) {
-            if (level < 0 || level >= LEVELS - 1) {
-                return false;
-            }
+        /** Makes the next level: the same ranges, but for a variable that has a value there. */
+        private void fix(int level, int v, int value) {
             int from = level * VARIABLES;
             int to = from + VARIABLES;
             System.arraycopy(low, from, low, to, VARIABLES);
             System.arraycopy(high, from, high, to, VARIABLES);
             low[to + v] = value;
             high[to + v] = value;
-            return settle(to, 1 << v);
         }
 
-        private boolean settle(int row, int changed) {
+        /** Narrows a level's ranges by the rules of the changed variables, and so on; false if one gets empty. */
+        private boolean settle(int level, int changed) {
+            int row = level * VARIABLES;
             for (int pass = 0; pass < PASSES && changed != 0; pass++) {
                 narrowed = 0;
                 for (int rule = 0; rule < rules.size; rule++) {
-                    if ((rules.mask[rule] & changed) != 0 && !tighten(rule, row)) {
-                        return false;
+                    if ((rules.mask[rule] & changed) != 0) {
+                        boolean isLinear = rules.type[rule] == Rules.LINEAR;
+                        if (isLinear ? !tightenLinear(rule, row) : !tightenChoice(rule, row)) {
+                            return false;
+                        }
                     }
                 }
                 changed = narrowed;
@@ -838,27 +890,20 @@ public final class BagCounts {
             return true;
         }
 
-        private boolean tighten(int rule, int row) {
-            switch (rules.type[rule]) {
-                case Rules.TOP:
-                    return tightenTop(rule * Rules.TERMS, row);
-                case Rules.BOTTOM:
-                    return tightenBottom(rule * Rules.TERMS, row);
-                default:
-                    return tightenLinear(rule, row);
-            }
-        }
-
         private boolean tightenLinear(int rule, int row) {
-            int least = leastSum(rule, row);
-            int greatest = greatestSum(rule, row);
             int first = rule * Rules.TERMS;
-            for (int t = first; t < first + rules.terms[rule]; t++) {
-                int factor = rules.factor[t];
-                int v = rules.variable[t];
+            int end = first + rules.terms[rule];
+            int least = 0;
+            int greatest = 0;
+            for (int t = first; t < end; t++) {
+                least += leastTerm(t, row);
+                greatest += greatestTerm(t, row);
+            }
+            for (int t = first; t < end; t++) {
                 int restLeast = least - leastTerm(t, row);
                 int restGreatest = greatest - greatestTerm(t, row);
-                if (!keepTimes(factor, v, row, rules.low[rule] - restGreatest, rules.high[rule] - restLeast)) {
+                int cell = row + rules.variable[t];
+                if (!keep(cell, rules.factor[t], rules.low[rule] - restGreatest, rules.high[rule] - restLeast)) {
                     return false;
                 }
                 least = restLeast + leastTerm(t, row);
@@ -867,117 +912,215 @@ public final class BagCounts {
             return true;
         }
 
+        /** If one of the two can not be what is chosen, it is the other. */
+        private boolean tightenChoice(int rule, int row) {
+            int first = rule * Rules.TERMS;
+            int a = row + rules.variable[first];
+            int b = row + rules.variable[first + 1];
+            int c = row + rules.variable[first + 2];
+            if (rules.type[rule] == Rules.TOP) {
+                return keep(a, 1, Math.max(low[b], low[c]), Math.max(high[b], high[c]))
+                        && keep(b, 1, high[c] < low[a] ? low[a] : 0, high[a])
+                        && keep(c, 1, high[b] < low[a] ? low[a] : 0, high[a]);
+            }
+            return keep(a, 1, Math.min(low[b], low[c]), Math.min(high[b], high[c]))
+                    && keep(b, 1, low[a], low[c] > high[a] ? high[a] : MOST_SIZE)
+                    && keep(c, 1, low[a], low[b] > high[a] ? high[a] : MOST_SIZE);
+        }
+
+        /** Whether a rule holds whatever its variables will be. */
         private boolean isSure(int rule, int row) {
-            return rules.type[rule] == Rules.LINEAR
-                    && leastSum(rule, row) >= rules.low[rule] && greatestSum(rule, row) <= rules.high[rule];
-        }
-
-        private int leastSum(int rule, int row) {
-            int sum = 0;
             int first = rule * Rules.TERMS;
+            int least = 0;
+            int greatest = 0;
             for (int t = first; t < first + rules.terms[rule]; t++) {
-                sum += leastTerm(t, row);
+                least += leastTerm(t, row);
+                greatest += greatestTerm(t, row);
             }
-            return sum;
-        }
-
-        private int greatestSum(int rule, int row) {
-            int sum = 0;
-            int first = rule * Rules.TERMS;
-            for (int t = first; t < first + rules.terms[rule]; t++) {
-                sum += greatestTerm(t, row);
-            }
-            return sum;
+            return rules.type[rule] == Rules.LINEAR && least >= rules.low[rule] && greatest <= rules.high[rule];
         }
 
         private int leastTerm(int t, int row) {
-            int factor = rules.factor[t];
             int cell = row + rules.variable[t];
-            return factor * (factor > 0 ? low[cell] : high[cell]);
+            return rules.factor[t] * (rules.factor[t] > 0 ? low[cell] : high[cell]);
         }
 
         private int greatestTerm(int t, int row) {
-            int factor = rules.factor[t];
             int cell = row + rules.variable[t];
-            return factor * (factor > 0 ? high[cell] : low[cell]);
-        }
-
-        private boolean tightenTop(int first, int row) {
-            int a = rules.variable[first];
-            int b = rules.variable[first + 1];
-            int c = rules.variable[first + 2];
-            return keep(a, row, Math.max(low[row + b], low[row + c]), Math.max(high[row + b], high[row + c]))
-                    && keep(b, row, high[row + c] < low[row + a] ? low[row + a] : 0, high[row + a])
-                    && keep(c, row, high[row + b] < low[row + a] ? low[row + a] : 0, high[row + a]);
-        }
-
-        private boolean tightenBottom(int first, int row) {
-            int a = rules.variable[first];
-            int b = rules.variable[first + 1];
-            int c = rules.variable[first + 2];
-            return keep(a, row, Math.min(low[row + b], low[row + c]), Math.min(high[row + b], high[row + c]))
-                    && keep(b, row, low[row + a], low[row + c] > high[row + a] ? high[row + a] : MOST_SIZE)
-                    && keep(c, row, low[row + a], low[row + b] > high[row + a] ? high[row + a] : MOST_SIZE);
-        }
-
-        private boolean keep(int v, int row, int least, int greatest) {
-            return keepTimes(1, v, row, least, greatest);
+            return rules.factor[t] * (rules.factor[t] > 0 ? high[cell] : low[cell]);
         }
 
         /** Keeps the values of a variable of which a multiple is within a range; false if there is none. */
-        private boolean keepTimes(int factor, int v, int row, int least, int greatest) {
-            int from = low[row + v];
-            int to = high[row + v];
-            while (from <= to && !isWithin(factor * from, least, greatest)) {
+        private boolean keep(int cell, int factor, int least, int greatest) {
+            int from = low[cell];
+            int to = high[cell];
+            while (from <= to && (factor * from < least || factor * from > greatest)) {
                 from++;
             }
-            while (from <= to && !isWithin(factor * to, least, greatest)) {
+            while (from <= to && (factor * to < least || factor * to > greatest)) {
                 to--;
             }
             if (from > to) {
                 return false;
             }
-            if (from != low[row + v] || to != high[row + v]) {
-                low[row + v] = from;
-                high[row + v] = to;
-                narrowed |= 1 << v;
+            if (from != low[cell] || to != high[cell]) {
+                low[cell] = from;
+                high[cell] = to;
+                narrowed |= 1 << cell % VARIABLES;
             }
             return true;
         }
     }
 
-    /** What follows from facts: each answer is put together from questions whether a solution is left. */
+    /**
+     * By kinds: how far one bag's count can be above another's, so far as the facts about whole bags and those
+     * that compare counts of one kind tell. So bags are found to be within others, or the same, without going
+     * through all that their counts can be, and their sizes can be compared.
+     */
+    private static final class Gaps {
+        private static final int PASSES = 1000;
+
+        private final int[] gaps = new int[KINDS * BAGS * BAGS];
+        private int most;
+        private boolean isNarrowed;
+
+        void close(Facts facts, int set) {
+            most = facts.most;
+            for (int i = 0; i < gaps.length; i++) {
+                gaps[i] = i / BAGS % BAGS == i % BAGS ? 0 : most;
+            }
+            isNarrowed = true;
+            for (int pass = 0; pass < PASSES && isNarrowed; pass++) {
+                isNarrowed = false;
+                for (int fact = 0; fact <= Facts.ASKED; fact++) {
+                    if ((set & (1 << fact)) != 0) {
+                        apply(facts, fact);
+                    }
+                }
+                for (int kind = 0; kind < KINDS && isNarrowed; kind++) {
+                    chain(kind);
+                }
+            }
+        }
+
+        void addTo(Rules rules, boolean hasSizes) {
+            for (int one = 0; one < BAGS; one++) {
+                for (int other = 0; other < BAGS; other++) {
+                    int total = 0;
+                    for (int kind = 0; kind < KINDS; kind++) {
+                        int gap = of(kind, one, other);
+                        total += gap;
+                        if (gap < (one == other ? 0 : most)) {
+                            rules.difference(Search.variable(other, kind), Search.variable(one, kind), -gap);
+                        }
+                    }
+                    if (hasSizes && one != other && total < KINDS * most) {
+                        rules.difference(Search.variable(other, Search.SIZES), Search.variable(one, Search.SIZES), -total);
+                    }
+                }
+            }
+        }
+
+        private int of(int kind, int one, int other) {
+            return gaps[(kind * BAGS + one) * BAGS + other];
+        }
+
+        /** A gap that no counts have is a contradiction already, and gets no smaller: so the passes end. */
+        private void narrow(int kind, int one, int other, int gap) {
+            int i = (kind * BAGS + one) * BAGS + other;
+            if (gap < gaps[i] && gaps[i] >= -most) {
+                gaps[i] = gap;
+                isNarrowed = true;
+            }
+        }
+
+        private void chain(int kind) {
+            for (int middle = 0; middle < BAGS; middle++) {
+                for (int one = 0; one < BAGS; one++) {
+                    for (int other = 0; other < BAGS; other++) {
+                        narrow(kind, one, other, of(kind, one, middle) + of(kind, middle, other));
+                    }
+                }
+            }
+        }
+
+        private void apply(Facts facts, int fact) {
+            int form = facts.number(fact, Facts.FORM);
+            int a = facts.number(fact, Facts.A);
+            int b = facts.number(fact, Facts.B);
+            int c = facts.number(fact, Facts.C);
+            if (form == MORE && b == facts.number(fact, Facts.D)) {
+                narrow(b, c, a, -facts.number(fact, Facts.E));
+            }
+            for (int kind = 0; kind < KINDS; kind++) {
+                if (form == WITHIN || form == LEAST) {
+                    narrow(kind, a, b, 0);
+                }
+                if (form == LEAST) {
+                    narrow(kind, a, c, 0);
+                }
+                if (form == SUM || form == GREATEST) {
+                    narrow(kind, b, a, 0);
+                    narrow(kind, c, a, 0);
+                }
+                for (int bag = 0; bag < BAGS; bag++) {
+                    if (form == GREATEST) {
+                        narrow(kind, a, bag, Math.max(of(kind, b, bag), of(kind, c, bag)));
+                    } else if (form == LEAST) {
+                        narrow(kind, bag, a, Math.max(of(kind, bag, b), of(kind, bag, c)));
+                    }
+                }
+            }
+        }
+    }
+
+    /** Answers what follows from a set of facts, given as a bit mask, by searches for solutions. */
     private static final class Logic {
         /** By forms: in how many ways a fact can fail to hold. */
         private static final int[] OPPOSITES = {2, 2, 6, 9, 9, 3, 1};
 
         private final Facts facts;
         private final Search search = new Search();
+        private final Gaps gaps = new Gaps();
 
         Logic(Facts facts) {
             this.facts = facts;
         }
 
-        boolean canAllHold(int set) {
-            load(set);
-            return search.canHold();
+        boolean canHold(int set) {
+            load(set, false);
+            return search.howMany(1) != 0;
+        }
+
+        /** Whether a fact can fail to hold if the facts of a set hold. */
+        boolean canFail(int fact, int set) {
+            int form = facts.number(fact, Facts.FORM);
+            int opposites = isWithin(form, COUNT, MORE) ? OPPOSITES[form] : 0;
+            for (int way = 0; way < opposites; way++) {
+                load(set, form == SIZE);
+                addOpposite(fact, way);
+                if (search.howMany(1) != 0) {
+                    return true;
+                }
+            }
+            return false;
         }
 
         int howMany(int limit) {
-            load(facts.all());
+            load(facts.all(), false);
             return search.howMany(limit);
         }
 
         /** The least or greatest value of a variable if the facts of a set hold. */
-        int extreme(int set, int v, boolean greatest) {
-            load(set);
+        int extreme(int set, int v, boolean isGreatest) {
+            load(set, v % Search.COLUMNS == Search.SIZES);
             if (!search.settleAll()) {
                 return NONE;
             }
             int from = search.low[v];
             int to = search.high[v];
             for (int i = 0; i <= to - from; i++) {
-                int value = greatest ? to - i : from + i;
+                int value = isGreatest ? to - i : from + i;
                 if (search.canBe(v, value)) {
                     return value;
                 }
@@ -985,152 +1128,75 @@ public final class BagCounts {
             return NONE;
         }
 
-        int ofLeastSolution(int wanted) {
-            load(facts.all());
-            if (!search.settleAll()) {
+        /** Gives the counts their least values, one after the other, up to the one that is asked for. */
+        int inLeastSolution(int asked) {
+            load(facts.all(), false);
+            if (search.howMany(1) == 0) {
                 return NONE;
             }
-            for (int v = 0; v < wanted; v++) {
-                if (v % Search.COLUMNS != Search.SIZES && !fixLeast(v)) {
-                    return NONE;
+            for (int v = 0; v <= asked; v++) {
+                int last = search.high[v];
+                for (int value = search.low[v]; value < last; value++) {
+                    if (search.canBe(v, value)) {
+                        last = value;
+                    }
+                }
+                search.settleOn(v, last);
+            }
+            return search.low[asked];
+        }
+
+        private void load(int set, boolean asksForSizes) {
+            boolean hasSizes = asksForSizes || hasSizeFact(set);
+            search.begin(facts.most, hasSizes);
+            gaps.close(facts, set);
+            gaps.addTo(search.rules, hasSizes);
+            for (int fact = 0; fact <= Facts.ASKED; fact++) {
+                if ((set & (1 << fact)) != 0) {
+                    addFact(fact, hasSizes);
                 }
             }
-            return fixLeast(wanted) ? search.low[wanted] : NONE;
         }
 
-        /** 1 if the asked fact holds in all solutions, 0 if in none, 2 if in some. */
-        int verdictOnAsked() {
-            int set = facts.all();
-            if (!canAllHold(set)) {
-                return NONE;
-            }
-            if (!canFail(Facts.ASKED, set)) {
-                return 1;
-            }
-            return canAllHold(set | 1 << Facts.ASKED) ? 2 : 0;
-        }
-
-        int contradicting() {
-            int kept = facts.all();
-            if (canAllHold(kept)) {
-                return NONE;
-            }
-            for (int fact = 0; fact < facts.known; fact++) {
-                int without = kept & ~(1 << fact);
-                if (!canAllHold(without)) {
-                    kept = without;
-                }
-            }
-            return kept;
-        }
-
-        int reasonsFor(int v, boolean greatest) {
-            int kept = facts.all();
-            int bound = extreme(kept, v, greatest);
-            if (bound == NONE) {
-                return NONE;
-            }
-            for (int fact = 0; fact < facts.known; fact++) {
-                int without = kept & ~(1 << fact);
-                if (extreme(without, v, greatest) == bound) {
-                    kept = without;
-                }
-            }
-            return kept;
-        }
-
-        /** The facts of which each follows from all others. */
-        int implied() {
-            int all = facts.all();
-            if (!canAllHold(all)) {
-                return NONE;
-            }
-            int found = 0;
-            for (int fact = 0; fact < facts.known; fact++) {
-                if (!canFail(fact, all & ~(1 << fact))) {
-                    found |= 1 << fact;
-                }
-            }
-            return found;
-        }
-
-        private boolean fixLeast(int v) {
-            for (int value = search.low[v]; value <= search.high[v]; value++) {
-                if (search.canBe(v, value)) {
-                    return search.settleOn(v, value);
-                }
-            }
-            return false;
-        }
-
-        private boolean canFail(int fact, int set) {
-            int form = facts.number(fact, Facts.FORM);
-            int opposites = isWithin(form, COUNT, MORE) ? OPPOSITES[form] : 0;
-            for (int way = 0; way < opposites; way++) {
-                load(set);
-                addOpposite(fact, way);
-                if (search.canHold()) {
+        private boolean hasSizeFact(int set) {
+            for (int fact = 0; fact <= Facts.ASKED; fact++) {
+                if ((set & (1 << fact)) != 0 && facts.number(fact, Facts.FORM) == SIZE) {
                     return true;
                 }
             }
             return false;
         }
 
-        private void load(int set) {
-            search.begin(facts.most);
-            for (int fact = 0; fact <= Facts.ASKED; fact++) {
-                if ((set & (1 << fact)) != 0) {
-                    addFact(fact);
-                }
-            }
-        }
-
-        private void addFact(int fact) {
+        /** Adds what the gaps do not tell of a fact. */
+        private void addFact(int fact, boolean hasSizes) {
             int form = facts.number(fact, Facts.FORM);
             int a = facts.number(fact, Facts.A);
             int b = facts.number(fact, Facts.B);
             int c = facts.number(fact, Facts.C);
             int d = facts.number(fact, Facts.D);
-            switch (form) {
-                case COUNT:
-                    search.restrict(Search.variable(a, b), c, d);
-                    break;
-                case SIZE:
-                    search.restrict(Search.variable(a, Search.SIZES), b, c);
-                    break;
-                case MORE:
-                    int e = facts.number(fact, Facts.E);
-                    search.rules.difference(Search.variable(a, b), Search.variable(c, d), e);
-                    break;
-                default:
-                    for (int column = 0; column < Search.COLUMNS; column++) {
-                        addColumn(form, column, a, b, c);
-                    }
-                    break;
+            if (form == COUNT) {
+                search.restrict(Search.variable(a, b), c, d);
+            } else if (form == SIZE) {
+                search.restrict(Search.variable(a, Search.SIZES), b, c);
+            } else if (form == MORE && b != d) {
+                int e = facts.number(fact, Facts.E);
+                search.rules.difference(Search.variable(a, b), Search.variable(c, d), e);
+            } else if (form == SUM || form == GREATEST || form == LEAST) {
+                for (int column = 0; column < (hasSizes ? Search.COLUMNS : KINDS); column++) {
+                    addColumn(form, column, a, b, c);
+                }
             }
         }
 
-        /** What a fact about whole bags says of one kind, or what follows from it for the sizes. */
+        /** What a fact about three bags says of one kind, or, if it is a SUM, of the sizes. */
         private void addColumn(int form, int column, int bagA, int bagB, int bagC) {
-            Rules rules = search.rules;
             int a = Search.variable(bagA, column);
             int b = Search.variable(bagB, column);
             int c = Search.variable(bagC, column);
-            boolean isSize = column == Search.SIZES;
-            if (form == WITHIN) {
-                rules.difference(b, a, 0);
-            } else if (form == SUM) {
-                rules.sum(a, b, c, 0, 0);
-            } else if (bagB == bagC) {
-                rules.same(a, b);
-            } else if (!isSize) {
-                rules.choice(form == GREATEST ? Rules.TOP : Rules.BOTTOM, a, b, c);
-            } else if (form == GREATEST) {
-                rules.difference(a, b, 0);
-                rules.difference(a, c, 0);
-            } else {
-                rules.difference(b, a, 0);
-                rules.difference(c, a, 0);
+            if (form == SUM) {
+                search.rules.sum(a, b, c, 0, 0);
+            } else if (column != Search.SIZES) {
+                search.rules.choice(form == GREATEST ? Rules.TOP : Rules.BOTTOM, a, b, c);
             }
         }
 
@@ -1140,22 +1206,17 @@ public final class BagCounts {
             int b = facts.number(fact, Facts.B);
             int c = facts.number(fact, Facts.C);
             int d = facts.number(fact, Facts.D);
-            switch (form) {
-                case COUNT:
-                    restrictOutside(Search.variable(a, b), c, d, way);
-                    break;
-                case SIZE:
-                    restrictOutside(Search.variable(a, Search.SIZES), b, c, way);
-                    break;
-                case MORE:
-                    int e = facts.number(fact, Facts.E);
-                    search.rules.difference(Search.variable(c, d), Search.variable(a, b), 1 - e);
-                    break;
-                default:
-                    int kind = way % KINDS;
-                    addOppositeOfKind(form, way / KINDS, Search.variable(a, kind), Search.variable(b, kind),
-                            Search.variable(c, kind));
-                    break;
+            if (form == COUNT) {
+                restrictOutside(Search.variable(a, b), c, d, way);
+            } else if (form == SIZE) {
+                restrictOutside(Search.variable(a, Search.SIZES), b, c, way);
+            } else if (form == MORE) {
+                int e = facts.number(fact, Facts.E);
+                search.rules.difference(Search.variable(c, d), Search.variable(a, b), 1 - e);
+            } else {
+                int kind = way % KINDS;
+                addOppositeOfKind(form, way / KINDS, Search.variable(a, kind), Search.variable(b, kind),
+                        Search.variable(c, kind));
             }
         }
 
@@ -1167,14 +1228,15 @@ public final class BagCounts {
             }
         }
 
+        /** The ways 0 and 1 are one comparison each; the way 2 is that a is beyond both b and c. */
         private void addOppositeOfKind(int form, int way, int a, int b, int c) {
             Rules rules = search.rules;
+            int other = way == 0 ? b : c;
             if (form == WITHIN) {
                 rules.difference(a, b, 1);
             } else if (form == SUM) {
-                rules.sum(a, b, c, way == 0 ? 1 : -2 * MOST_COUNT, way == 0 ? MOST_COUNT : -1);
+                rules.sum(a, b, c, way == 0 ? 1 : -MOST_SIZE, way == 0 ? MOST_SIZE : -1);
             } else if (way < 2) {
-                int other = way == 0 ? b : c;
                 rules.difference(form == GREATEST ? other : a, form == GREATEST ? a : other, 1);
             } else if (form == GREATEST) {
                 rules.difference(a, b, 1);
