@@ -1,21 +1,5 @@
 /** At least one test for each promise of the document: ordinary inputs, the edges that it names, wrong inputs. */
-public final class BagCountsTest {
-    private static final int NO_SUCH = -1, BAD_VALUE = -2, BAD_TEXT = -3, TOO_MANY = -4, NOT_POSSIBLE = -5, NONE = -6;
-    private static final int COUNT = 0, SIZE = 1, SUM = 2, GREATEST = 3, LEAST = 4, WITHIN = 5, MORE = 6;
-    private static final int LOWEST = Integer.MIN_VALUE, HIGHEST = Integer.MAX_VALUE;
-
-    private static int passed;
-    private static int failed;
-
-    private static void due(String what, long got, long want) {
-        if (got == want) {
-            passed++;
-        } else {
-            failed++;
-            System.out.println(what + " answered " + got + ", due is " + want);
-        }
-    }
-
+public final class BagCountsTest extends Checks {
     public static void main(String[] arguments) {
         constants();
         newObject();
@@ -45,67 +29,7 @@ public final class BagCountsTest {
         restore();
         errorsChangeNothing();
         hardFacts();
-        System.out.println("BagCountsTest: " + passed + " passed, " + failed + " failed");
-        if (failed != 0) {
-            System.exit(1);
-        }
-    }
-
-    private static BagCounts bagsOf(int most, int[]... facts) {
-        BagCounts bags = new BagCounts();
-        bags.most(most);
-        for (int[] n : facts) {
-            bags.fact(n[0], n[1], n[2], n[3], n[4], n[5]);
-        }
-        return bags;
-    }
-
-    private static int[] fact(int form, int... numbers) {
-        int[] n = new int[6];
-        n[0] = form;
-        System.arraycopy(numbers, 0, n, 1, numbers.length);
-        return n;
-    }
-
-    private static int tell(BagCounts bags, int[] n) {
-        return bags.fact(n[0], n[1], n[2], n[3], n[4], n[5]);
-    }
-
-    private static int follows(BagCounts bags, int form, int... numbers) {
-        int[] n = fact(form, numbers);
-        return bags.follows(n[0], n[1], n[2], n[3], n[4], n[5]);
-    }
-
-    private static long packed(String characters) {
-        long number = 0;
-        for (int i = 0; i < characters.length(); i++) {
-            number = number << 8 | characters.charAt(i);
-        }
-        return number;
-    }
-
-    private static void write(BagCounts bags, String text) {
-        for (int at = 0; at < text.length(); at += 8) {
-            bags.put(packed(text.substring(at, Math.min(text.length(), at + 8))));
-        }
-    }
-
-    private static void dueFault(String text, int want) {
-        BagCounts bags = new BagCounts();
-        write(bags, text);
-        due("fault of " + text, bags.fault(), want);
-        due("length of " + text, bags.count(2), text.length());
-        if (want != NONE) {
-            due("tell of " + text, bags.tell(), BAD_TEXT);
-            due("length after tell of " + text, bags.count(2), text.length());
-            due("changes after tell of " + text, bags.count(3), 0);
-        }
-    }
-
-    private static void dueFact(BagCounts bags, int at, int[] want) {
-        for (int what = 0; what < 6; what++) {
-            due("ofFact(" + at + ", " + what + ")", bags.ofFact(at, what), want[what] + (what == 5 ? 100 : 0));
-        }
+        finish("BagCountsTest");
     }
 
     private static void constants() {
@@ -351,12 +275,6 @@ public final class BagCountsTest {
         bags.fact(SIZE, 1, 0, 2, 0, 0);
         due("size without a solution", bags.sizeOf(0, 0), NONE);
         due("what comes first", bags.sizeOf(0, 2), BAD_VALUE);
-    }
-
-    private static void dueLeast(BagCounts bags, int... want) {
-        for (int i = 0; i < 12; i++) {
-            due("least(" + i / 3 + ", " + i % 3 + ")", bags.least(i / 3, i % 3), want[i]);
-        }
     }
 
     /** Promise 10: the counts of the bag 0 are compared first, so that the counts of the others may be large. */

@@ -96,12 +96,14 @@ public final class LanguageTest {
         }
     }
 
-    /** Rules 2, 4, 6, 10 and 11, as far as words tell. */
+    /** Rules 2, 4, 6, 9 and 11, as far as words tell. */
     private static void words(String source) {
-        String code = source.replaceAll("(?s)/\\*.*?\\*/", "").replaceAll("//.*", "").replaceAll("'[^']*'", "' '");
+        String code = source.replaceAll("(?s)/\\*.*?\\*/", "").replaceAll("//.*", "").replaceAll("'[^']*'", "' '")
+                .replaceAll("\"[^\"]*\"", "\" \"").replaceAll("\\b(case\\b[^;{}:]*|default\\s*)->", "")
+                .replaceAll("import java\\.util\\.(ArrayList|List|Arrays|Iterator);", "").replace("@Override", "");
         Matcher word = Pattern.compile("\\b(import|package|throw|throws|try|catch|finally|synchronized|assert|volatile|native"
-                + "|transient|strictfp|enum|yield|var|equals|hashCode|toString|Object|instanceof|double|float|new String)\\b"
-                + "|->|::|@|\"|static\\s*\\{|\\bwhile\\s*\\(true").matcher(code);
+                + "|transient|strictfp|Object)\\b|\\b(equals\\(Object|int hashCode\\(|String toString\\()"
+                + "|->|::|@|static\\s*\\{|\\bwhile\\s*\\(true").matcher(code);
         while (word.find()) {
             faults.add("the word " + word.group());
         }
