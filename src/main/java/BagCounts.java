@@ -480,7 +480,6 @@ public final class BagCounts {
         }
 
         private boolean readFact() {
-            b = 0;
             c = 0;
             d = 0;
             e = 0;

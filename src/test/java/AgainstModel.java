@@ -1,6 +1,9 @@
 import java.util.Random;
 
-/** Random calls on BagCounts and on the model, from fixed seeds: each answer has to be the same. */
+/**
+ * Random calls on BagCounts and on the model, from fixed seeds: each answer has to be the same. Each second run only tells
+ * facts at first, most of which go with one another, and then asks all questions about them.
+ */
 public final class AgainstModel {
     private static final int CALLS = 60;
 
@@ -24,8 +27,8 @@ public final class AgainstModel {
         int first = arguments.length > 2 ? Integer.parseInt(arguments[2]) : 0;
         int wrong = 0;
         for (int i = first; i < first + runs && wrong < 3; i++) {
-            AgainstModel one = new AgainstModel(i, patience, 1 + i % 6);
-            if (!one.agrees()) {
+            AgainstModel one = new AgainstModel(i, patience, 1 + i / 2 % (i % 2 == 0 ? 6 : 4));
+            if (i % 2 == 0 ? !one.agrees() : !one.agreesOnAllQuestions()) {
                 System.out.println("seed " + i + ":\n" + one.run);
                 wrong++;
             }
@@ -49,6 +52,28 @@ public final class AgainstModel {
             }
         }
         return true;
+    }
+
+    private boolean agreesOnAllQuestions() {
+        boolean isSame = isSame("most", new int[] {mostAtMost});
+        for (int i = 1 + random.nextInt(10); i > 0 && isSame; i--) {
+            isSame = isSame("fact", someFact());
+            if (bags.isPossible() == 0 && random.nextInt(20) != 0) {
+                isSame = isSame && isSame("drop", new int[] {bags.count(0) - 1});
+            }
+        }
+        String[] wholes = {"isPossible", "contradiction", "needless"};
+        for (int i = 0; i < wholes.length && isSame; i++) {
+            isSame = isSame(wholes[i], new int[0]);
+        }
+        for (int i = 0; i < 24 && isSame; i++) {
+            int bag = i / 6;
+            int kind = i / 2 % 3;
+            isSame = isSame("bound", new int[] {bag, kind, i % 2}) && isSame("reason", new int[] {bag, kind, i % 2})
+                    && isSame("least", new int[] {bag, kind}) && isSame("sizeOf", new int[] {bag, i % 2})
+                    && isSame("follows", someFact()) && isSame("solutions", new int[] {1 + random.nextInt(500)});
+        }
+        return isSame;
     }
 
     private boolean makeCall(String call) {

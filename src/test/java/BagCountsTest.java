@@ -29,6 +29,7 @@ public final class BagCountsTest extends Checks {
         restore();
         errorsChangeNothing();
         hardFacts();
+        factsThatRangesDoNotTell();
         finish("BagCountsTest");
     }
 
@@ -721,5 +722,23 @@ public final class BagCountsTest extends Checks {
             due("follows of hard sizes", follows(sizes, SUM, 0, 1, 2), NONE);
             due("needless of hard sums", sums.needless(), 1 | 2 | 4 | 16 | 128);
         }
+    }
+
+    /** Facts of which what each count can be by itself does not tell the answer. */
+    private static void factsThatRangesDoNotTell() {
+        due("a size of 2", bagsOf(1, fact(LEAST, 1, 1, 2), fact(SIZE, 3, 0, 2), fact(GREATEST, 2, 3, 0), fact(COUNT, 1, 0, 0, 5),
+                fact(SIZE, 0, 2, 5), fact(WITHIN, 1, 2), fact(LEAST, 1, 0, 2)).sizeOf(2, 0), 2);
+        due("275 solutions", bagsOf(2, fact(COUNT, 3, 1, 1, 3), fact(SIZE, 1, 2, 5), fact(MORE, 0, 2, 3, 2, 1), fact(WITHIN, 1, 3),
+                fact(SIZE, 2, 2, 5), fact(LEAST, 2, 0, 2), fact(SIZE, 1, 2, 3), fact(LEAST, 2, 0, 1)).solutions(460), 275);
+        due("no bound", bagsOf(2, fact(MORE, 3, 2, 3, 2, -1), fact(SUM, 1, 1, 1), fact(COUNT, 1, 0, 1, 1), fact(WITHIN, 3, 0),
+                fact(MORE, 0, 1, 3, 1, 1), fact(GREATEST, 0, 2, 0)).bound(2, 2, 0), NONE);
+        due("no greatest size", bagsOf(1, fact(SIZE, 1, 1, 4), fact(SUM, 1, 2, 0), fact(LEAST, 0, 1, 2), fact(MORE, 1, 0, 1, 1, -1),
+                fact(MORE, 1, 0, 2, 0, 0)).sizeOf(1, 1), NONE);
+        due("no least size", bagsOf(6, fact(SUM, 3, 2, 0), fact(MORE, 1, 1, 2, 0, 0), fact(SIZE, 1, 6, 9), fact(LEAST, 3, 1, 0),
+                fact(GREATEST, 3, 0, 0), fact(LEAST, 3, 2, 1), fact(SUM, 1, 0, 2), fact(WITHIN, 3, 2), fact(GREATEST, 0, 2, 0))
+                .sizeOf(3, 0), NONE);
+        due("a least count of 3", bagsOf(5, fact(MORE, 1, 1, 3, 0, 0), fact(SUM, 2, 1, 1), fact(GREATEST, 0, 3, 2),
+                fact(COUNT, 0, 1, 1, 3), fact(WITHIN, 3, 0), fact(SUM, 3, 1, 2), fact(WITHIN, 2, 3), fact(WITHIN, 3, 0))
+                .least(0, 1), 3);
     }
 }

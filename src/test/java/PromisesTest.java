@@ -762,6 +762,16 @@ public final class PromisesTest extends Checks {
                 x.undo();
             }
         });
+        Scene told = new Scene("ten facts of a text", () -> with(WRITTEN, BagCounts::tell));
+        for (int fact = 0; fact < 10; fact++) {
+            int dropped = fact;
+            dueUnchanged(told, "drop(" + fact + ") and another fact, undone", x -> {
+                x.drop(dropped);
+                x.fact(MORE, 1, 1, 2, 1, 5);
+                x.undo();
+                x.undo();
+            });
+        }
     }
 
     private static void undoLeavesThePadAndTheSlots() {
@@ -1008,6 +1018,14 @@ public final class PromisesTest extends Checks {
             bags.drop(9);
             bags.drop(0);
         }
+        for (int i = 0; i < 10; i++) {
+            bags.drop(0);
+            bags.fact(MORE, 3, 2, 3, 2, -6);
+        }
+        bags.restore(1);
+        due("restore of ten over ten others", bags.restore(0), 10);
+        dueFact(bags, 0, fact(COUNT, 0, 0, 1, 5));
+        dueFact(bags, 9, fact(MORE, 0, 2, 2, 0, 1));
         BagCounts none = new BagCounts();
         none.save(0);
         none.fact(COUNT, 0, 0, 3, 3, 0);

@@ -119,7 +119,10 @@ public final class TermsTest extends Checks {
         dueRefused(SOME, "restore(1)", NOT_POSSIBLE, x -> x.restore(1));
         dueRefused(FULL, "fact", TOO_MANY, x -> x.fact(COUNT, 0, 0, 0, 0, 0));
         dueRefused(FULL, "put", TOO_MANY, x -> x.put('A'));
-        dueRefused(FULL, "a refused call behind a refused call", BAD_VALUE, x -> x.fact(9, 0, 0, 0, 0, 0) + x.drop(10) * 0);
+        dueRefused(FULL, "two refused calls", BAD_VALUE, x -> {
+            x.drop(10);
+            return x.fact(9, 0, 0, 0, 0, 0);
+        });
     }
 
     private static void noneOnlyIfNoErrorApplies() {
@@ -244,6 +247,9 @@ public final class TermsTest extends Checks {
             int size = i % 7 + i / 7 % 7 + i / 49;
             due("least size of a known bag", bags.sizeOf(bag, 0), size);
             due("greatest size of a known bag", bags.sizeOf(bag, 1), size);
+            due("the size of a known bag follows", follows(bags, SIZE, bag, size, size), 1);
+            due("a greater size can not be", size == 18 ? 0 : follows(bags, SIZE, bag, size + 1, 18), 0);
+            due("a lesser size can not be", size == 0 ? 0 : follows(bags, SIZE, bag, 0, size - 1), 0);
         }
     }
 
