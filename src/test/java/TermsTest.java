@@ -3,6 +3,8 @@ import java.util.List;
 /** Each sentence of the document's Terms that names a boundary case: CONVENTIONS, Bags, Facts. */
 public final class TermsTest extends Checks {
     private static final int[] OUTSIDE = {-1, LOWEST, HIGHEST};
+    /** Three bags in some orders: each bag stands in each place. */
+    private static final int[][] TRIPLES = {{0, 1, 2}, {1, 2, 3}, {2, 3, 0}, {3, 0, 1}, {3, 2, 1}};
     private static final String[] FORMS = {"COUNT", "SIZE", "SUM", "GREATEST", "LEAST", "WITHIN", "MORE"};
 
     public static void main(String[] arguments) {
@@ -482,9 +484,6 @@ public final class TermsTest extends Checks {
     }
 
     // ---- forms
-
-    /** Three bags in all orders that matter: each bag stands once in each place. */
-    private static final int[][] TRIPLES = {{0, 1, 2}, {1, 2, 3}, {2, 3, 0}, {3, 0, 1}, {3, 2, 1}};
 
     /** Bags of which all counts are known. */
     private static BagCounts known(int[] at, int[]... counts) {
