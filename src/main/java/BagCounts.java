@@ -21,7 +21,7 @@ public final class BagCounts {
 
     public BagCounts() {
         facts = new Facts();
-        logic = new Logic(facts);
+        logic = new Logic();
         pad = new Pad();
         history = new States(UNDOABLE);
         slots = new States(SLOTS);
@@ -90,54 +90,54 @@ public final class BagCounts {
     // ---- what follows; nothing changes
 
     public int isPossible() {
-        return logic.canHold(facts.all()) ? 1 : 0;
+        return logic.canHold(facts, facts.all()) ? 1 : 0;
     }
 
     public int bound(int bag, int kind, int what) {
         int refusal = refusalOfBound(bag, kind, what);
-        return refusal != 0 ? refusal : logic.extreme(facts.all(), Search.variable(bag, kind), what == 1);
+        return refusal != 0 ? refusal : logic.extreme(facts, facts.all(), Search.variable(bag, kind), what == 1);
     }
 
     public int sizeOf(int bag, int what) {
         int refusal = refusalOfBound(bag, 0, what);
-        return refusal != 0 ? refusal : logic.extreme(facts.all(), Search.variable(bag, Search.SIZES), what == 1);
+        return refusal != 0 ? refusal : logic.extreme(facts, facts.all(), Search.variable(bag, Search.SIZES), what == 1);
     }
 
     public int least(int bag, int kind) {
         if (!isBag(bag) || !isKind(kind)) {
             return NO_SUCH;
         }
-        return logic.inLeastSolution(Search.variable(bag, kind));
+        return logic.inLeastSolution(facts, Search.variable(bag, kind));
     }
 
     public int solutions(int limit) {
         if (!isWithin(limit, 1, MOST_LIMIT)) {
             return BAD_VALUE;
         }
-        return logic.howMany(limit);
+        return logic.howMany(facts, limit);
     }
 
     public int follows(int form, int a, int b, int c, int d, int e) {
         if (!facts.ask(form, a, b, c, d, e)) {
             return BAD_VALUE;
         }
-        if (!logic.canHold(facts.all())) {
+        if (!logic.canHold(facts, facts.all())) {
             return NONE;
         }
-        if (!logic.canFail(Facts.ASKED, facts.all())) {
+        if (!logic.canFail(facts, Facts.ASKED, facts.all())) {
             return 1;
         }
-        return logic.canHold(facts.all() | 1 << Facts.ASKED) ? 2 : 0;
+        return logic.canHold(facts, facts.all() | 1 << Facts.ASKED) ? 2 : 0;
     }
 
     public int contradiction() {
         int kept = facts.all();
-        if (logic.canHold(kept)) {
+        if (logic.canHold(facts, kept)) {
             return NONE;
         }
         for (int fact = 0; fact < facts.known; fact++) {
             int without = kept & ~(1 << fact);
-            if (!logic.canHold(without)) {
+            if (!logic.canHold(facts, without)) {
                 kept = without;
             }
         }
@@ -151,13 +151,13 @@ public final class BagCounts {
         }
         int kept = facts.all();
         int variable = Search.variable(bag, kind);
-        int bound = logic.extreme(kept, variable, what == 1);
+        int bound = logic.extreme(facts, kept, variable, what == 1);
         if (bound == NONE) {
             return NONE;
         }
         for (int fact = 0; fact < facts.known; fact++) {
             int without = kept & ~(1 << fact);
-            if (logic.extreme(without, variable, what == 1) == bound) {
+            if (logic.extreme(facts, without, variable, what == 1) == bound) {
                 kept = without;
             }
         }
@@ -166,12 +166,12 @@ public final class BagCounts {
 
     public int needless() {
         int all = facts.all();
-        if (!logic.canHold(all)) {
+        if (!logic.canHold(facts, all)) {
             return NONE;
         }
         int found = 0;
         for (int fact = 0; fact < facts.known; fact++) {
-            if (!logic.canFail(fact, all & ~(1 << fact))) {
+            if (!logic.canFail(facts, fact, all & ~(1 << fact))) {
                 found |= 1 << fact;
             }
         }
@@ -1078,26 +1078,21 @@ public final class BagCounts {
         /** By forms: in how many ways a fact can fail to hold. */
         private static final int[] OPPOSITES = {2, 2, 6, 9, 9, 3, 1};
 
-        private final Facts facts;
         private final Search search = new Search();
         private final Gaps gaps = new Gaps();
 
-        Logic(Facts facts) {
-            this.facts = facts;
-        }
-
-        boolean canHold(int set) {
-            load(set, false);
+        boolean canHold(Facts facts, int set) {
+            load(facts, set, false);
             return search.howMany(1) != 0;
         }
 
         /** Whether a fact can fail to hold if the facts of a set hold. */
-        boolean canFail(int fact, int set) {
+        boolean canFail(Facts facts, int fact, int set) {
             int form = facts.number(fact, Facts.FORM);
             int opposites = isWithin(form, COUNT, MORE) ? OPPOSITES[form] : 0;
             for (int way = 0; way < opposites; way++) {
-                load(set, form == SIZE);
-                addOpposite(fact, way);
+                load(facts, set, form == SIZE);
+                addOpposite(facts, fact, way);
                 if (search.howMany(1) != 0) {
                     return true;
                 }
@@ -1105,14 +1100,14 @@ public final class BagCounts {
             return false;
         }
 
-        int howMany(int limit) {
-            load(facts.all(), false);
+        int howMany(Facts facts, int limit) {
+            load(facts, facts.all(), false);
             return search.howMany(limit);
         }
 
         /** The least or greatest value of a variable if the facts of a set hold. */
-        int extreme(int set, int v, boolean isGreatest) {
-            load(set, v % Search.COLUMNS == Search.SIZES);
+        int extreme(Facts facts, int set, int v, boolean isGreatest) {
+            load(facts, set, v % Search.COLUMNS == Search.SIZES);
             if (!search.settleAll()) {
                 return NONE;
             }
@@ -1128,8 +1123,8 @@ public final class BagCounts {
         }
 
         /** Gives the counts their least values, one after the other, up to the one that is asked for. */
-        int inLeastSolution(int asked) {
-            load(facts.all(), false);
+        int inLeastSolution(Facts facts, int asked) {
+            load(facts, facts.all(), false);
             if (search.howMany(1) == 0) {
                 return NONE;
             }
@@ -1145,19 +1140,19 @@ public final class BagCounts {
             return search.low[asked];
         }
 
-        private void load(int set, boolean asksForSizes) {
-            boolean hasSizes = asksForSizes || hasSizeFact(set);
+        private void load(Facts facts, int set, boolean asksForSizes) {
+            boolean hasSizes = asksForSizes || hasSizeFact(facts, set);
             search.begin(facts.most, hasSizes);
             gaps.close(facts, set);
             gaps.addTo(search.rules, hasSizes);
             for (int fact = 0; fact <= Facts.ASKED; fact++) {
                 if ((set & (1 << fact)) != 0) {
-                    addFact(fact, hasSizes);
+                    addFact(facts, fact, hasSizes);
                 }
             }
         }
 
-        private boolean hasSizeFact(int set) {
+        private boolean hasSizeFact(Facts facts, int set) {
             for (int fact = 0; fact <= Facts.ASKED; fact++) {
                 if ((set & (1 << fact)) != 0 && facts.number(fact, Facts.FORM) == SIZE) {
                     return true;
@@ -1167,7 +1162,7 @@ public final class BagCounts {
         }
 
         /** Adds what the gaps do not tell of a fact. */
-        private void addFact(int fact, boolean hasSizes) {
+        private void addFact(Facts facts, int fact, boolean hasSizes) {
             int form = facts.number(fact, Facts.FORM);
             int a = facts.number(fact, Facts.A);
             int b = facts.number(fact, Facts.B);
@@ -1199,7 +1194,7 @@ public final class BagCounts {
             }
         }
 
-        private void addOpposite(int fact, int way) {
+        private void addOpposite(Facts facts, int fact, int way) {
             int form = facts.number(fact, Facts.FORM);
             int a = facts.number(fact, Facts.A);
             int b = facts.number(fact, Facts.B);

@@ -25,7 +25,9 @@ public final class LanguageTest {
     public static void main(String[] arguments) throws Exception {
         face();
         inside();
-        words(Files.readString(Path.of("src/main/java/BagCounts.java")));
+        String source = Files.readString(Path.of("src/main/java/BagCounts.java"));
+        words(source);
+        constructor(source);
         faults.forEach(System.out::println);
         System.out.println("LanguageTest: " + (faults.isEmpty() ? "all rules kept" : faults.size() + " faults"));
         if (!faults.isEmpty()) {
@@ -113,5 +115,17 @@ public final class LanguageTest {
             long lines = source.substring(method.start(), Math.max(end, method.end())).lines().count();
             check(lines <= 60, lines + " lines: " + method.group().trim());
         }
+    }
+    /** Rule 12: what the constructor makes gets constants alone, and nothing of the object. */
+    private static void constructor(String source) {
+        int start = source.indexOf("public BagCounts() {");
+        String body = source.substring(Math.max(start, 0), source.indexOf("\n    }", Math.max(start, 0)));
+        Matcher made = Pattern.compile("\\w+ = new \\w+\\((.*)\\);").matcher(body);
+        int found = 0;
+        while (made.find()) {
+            found++;
+            check(made.group(1).matches("[A-Z_]*"), "the constructor hands out " + made.group(1));
+        }
+        check(start >= 0 && found == body.lines().count() - 1, "the constructor does more than to make its fields");
     }
 }

@@ -6,20 +6,11 @@ import java.util.regex.Matcher;
 import java.util.regex.Pattern;
 
 /**
- * The document in another way, for comparison: it goes through all counts, keeps lists of states, and finds the
- * fault of a text by a pattern. It refuses a question (TooHard) that would take it too long.
+ * The document in another way, for comparison: it answers each question by how many solutions there are, keeps lists
+ * of states, and finds the fault of a text by a pattern.
  */
 final class Model {
-    static final class TooHard extends RuntimeException {
-        private static final long serialVersionUID = 1L;
-    }
-
     private record State(int most, List<int[]> facts) { }
-
-    /** Takes a solution's twelve counts, and tells whether to go on. */
-    private interface Visitor {
-        boolean goOn(int[] counts);
-    }
 
     private static final String NUMBER = "(?:1[0-8]|[0-9])";
     private static final String RANGE = NUMBER + "(?:-" + NUMBER + ")?";
@@ -27,17 +18,11 @@ final class Model {
             + "|[A-D][x-z]>[A-D][x-z](?:[+-][0-6])?)";
     private static final Pattern TEXT = Pattern.compile(FACT + "(?:;" + FACT + ")*");
 
-    private final long patience;
-    private long steps;
     private int most = 4;
     private List<int[]> facts = new ArrayList<>();
     private String pad = "";
     private final Deque<State> history = new ArrayDeque<>();
     private final State[] slots = new State[2];
-
-    Model(long patience) {
-        this.patience = patience;
-    }
 
     // ---- changes
 
@@ -89,65 +74,68 @@ final class Model {
     // ---- what follows
 
     int isPossible() {
-        return exists(facts, null, false) ? 1 : 0;
+        return canHold(facts) ? 1 : 0;
     }
 
     int bound(int bag, int kind, int what) {
         if (bag < 0 || bag > 3 || kind < 0 || kind > 2) {
             return -1;
         }
-        return what < 0 || what > 1 ? -2 : extreme(facts, bag, kind, what);
+        return what < 0 || what > 1 ? -2 : boundOf(facts, bag, kind, what);
     }
 
     int sizeOf(int bag, int what) {
         if (bag < 0 || bag > 3) {
             return -1;
         }
-        return what < 0 || what > 1 ? -2 : extreme(facts, bag, 3, what);
+        if (what < 0 || what > 1) {
+            return -2;
+        }
+        for (int i = 0; i <= 3 * most; i++) {
+            int size = what == 0 ? i : 3 * most - i;
+            if (canHold(with(facts, new int[] {1, bag, size, size, 0, 0}))) {
+                return size;
+            }
+        }
+        return -6;
     }
 
     int least(int bag, int kind) {
         if (bag < 0 || bag > 3 || kind < 0 || kind > 2) {
             return -1;
         }
-        int[] best = new int[1];
-        List<int[]> least = new ArrayList<>();
-        visit(facts, counts -> {
-            if (least.isEmpty() || isLess(counts, least.get(0))) {
-                least.clear();
-                least.add(counts.clone());
-            }
-            return true;
-        });
-        best[0] = least.isEmpty() ? -6 : least.get(0)[3 * bag + kind];
-        return best[0];
+        List<int[]> known = facts;
+        int count = -6;
+        for (int i = 0; i <= 3 * bag + kind; i++) {
+            count = boundOf(known, i / 3, i % 3, 0);
+            known = with(known, counted(i / 3, i % 3, count));
+        }
+        return count;
     }
 
     int solutions(int limit) {
         if (limit < 1 || limit > 500) {
             return -2;
         }
-        int[] found = new int[1];
-        visit(facts, counts -> ++found[0] < limit);
-        return found[0];
+        return (int) Math.min(limit, Counting.solutions(most, facts, limit));
     }
 
     int follows(int... numbers) {
         if (!isFact(numbers)) {
             return -2;
         }
-        boolean canHold = exists(facts, numbers, false);
-        boolean canFail = exists(facts, numbers, true);
-        return canHold ? (canFail ? 2 : 1) : canFail ? 0 : -6;
+        long all = solutionsOf(facts);
+        long holding = solutionsOf(with(facts, numbers));
+        return all == 0 ? -6 : holding == all ? 1 : holding == 0 ? 0 : 2;
     }
 
     int contradiction() {
-        if (exists(facts, null, false)) {
+        if (canHold(facts)) {
             return -6;
         }
         int set = (1 << facts.size()) - 1;
         for (int i = 0; i < facts.size(); i++) {
-            if (!exists(subset(set & ~(1 << i)), null, false)) {
+            if (!canHold(subset(set & ~(1 << i)))) {
                 set &= ~(1 << i);
             }
         }
@@ -161,7 +149,7 @@ final class Model {
         }
         int set = (1 << facts.size()) - 1;
         for (int i = 0; i < facts.size(); i++) {
-            if (extreme(subset(set & ~(1 << i)), bag, kind, what) == bound) {
+            if (boundOf(subset(set & ~(1 << i)), bag, kind, what) == bound) {
                 set &= ~(1 << i);
             }
         }
@@ -169,16 +157,55 @@ final class Model {
     }
 
     int needless() {
-        if (!exists(facts, null, false)) {
+        long all = solutionsOf(facts);
+        if (all == 0) {
             return -6;
         }
         int set = 0;
         for (int i = 0; i < facts.size(); i++) {
-            if (!exists(subset(~(1 << i)), facts.get(i), true)) {
+            if (solutionsOf(subset(~(1 << i))) == all) {
                 set |= 1 << i;
             }
         }
         return set;
+    }
+
+    private boolean canHold(List<int[]> given) {
+        return Counting.solutions(most, given, 1) != 0;
+    }
+
+    private long solutionsOf(List<int[]> given) {
+        return Counting.solutions(most, given, Long.MAX_VALUE);
+    }
+
+    private int boundOf(List<int[]> given, int bag, int kind, int what) {
+        for (int i = 0; i <= most; i++) {
+            int count = what == 0 ? i : most - i;
+            if (canHold(with(given, counted(bag, kind, count)))) {
+                return count;
+            }
+        }
+        return -6;
+    }
+
+    private static int[] counted(int bag, int kind, int count) {
+        return new int[] {0, bag, kind, count, count, 0};
+    }
+
+    private static List<int[]> with(List<int[]> given, int[] fact) {
+        List<int[]> more = new ArrayList<>(given);
+        more.add(fact);
+        return more;
+    }
+
+    private List<int[]> subset(int set) {
+        List<int[]> some = new ArrayList<>();
+        for (int i = 0; i < facts.size(); i++) {
+            if ((set >> i & 1) != 0) {
+                some.add(facts.get(i));
+            }
+        }
+        return some;
     }
 
     // ---- texts
@@ -330,151 +357,5 @@ final class Model {
             }
         }
         return true;
-    }
-
-    // ---- going through all counts: a bag's counts stand at 3 * bag + kind
-
-    private static boolean holds(int[] n, int[] counts) {
-        if (n[0] == 0) {
-            int count = counts[3 * n[1] + n[2]];
-            return count >= n[3] && count <= n[4];
-        }
-        if (n[0] == 1) {
-            int size = size(counts, n[1]);
-            return size >= n[2] && size <= n[3];
-        }
-        if (n[0] == 6) {
-            return counts[3 * n[1] + n[2]] >= counts[3 * n[3] + n[4]] + n[5];
-        }
-        return holdsOfKind(n, counts, 0) && holdsOfKind(n, counts, 1) && holdsOfKind(n, counts, 2);
-    }
-
-    private static boolean holdsOfKind(int[] n, int[] counts, int kind) {
-        int a = counts[3 * n[1] + kind];
-        int b = counts[3 * n[2] + kind];
-        int c = counts[3 * n[3] + kind];
-        return switch (n[0]) {
-            case 2 -> a == b + c;
-            case 3 -> a == Math.max(b, c);
-            case 4 -> a == Math.min(b, c);
-            default -> a <= b;
-        };
-    }
-
-    private static int size(int[] counts, int bag) {
-        return counts[3 * bag] + counts[3 * bag + 1] + counts[3 * bag + 2];
-    }
-
-    private static boolean isLess(int[] one, int[] other) {
-        for (int i = 0; i < 12; i++) {
-            if (one[i] != other[i]) {
-                return one[i] < other[i];
-            }
-        }
-        return false;
-    }
-
-    private List<int[]> subset(int set) {
-        List<int[]> some = new ArrayList<>();
-        for (int i = 0; i < facts.size(); i++) {
-            if ((set >> i & 1) != 0) {
-                some.add(facts.get(i));
-            }
-        }
-        return some;
-    }
-
-    private boolean exists(List<int[]> given, int[] asked, boolean fails) {
-        boolean[] found = new boolean[1];
-        visit(given, counts -> {
-            found[0] = asked == null || holds(asked, counts) != fails;
-            return !found[0];
-        });
-        return found[0];
-    }
-
-    private int extreme(List<int[]> given, int bag, int kind, int what) {
-        int[] best = {-6};
-        visit(given, counts -> {
-            int value = kind == 3 ? size(counts, bag) : counts[3 * bag + kind];
-            if (best[0] == -6 || (what == 0 ? value < best[0] : value > best[0])) {
-                best[0] = value;
-            }
-            return true;
-        });
-        return best[0];
-    }
-
-    /** Tells a visitor all solutions: the fitting four counts of each kind first, then all that go together. */
-    private void visit(List<int[]> given, Visitor visitor) {
-        steps = 0;
-        List<List<int[]>> columns = new ArrayList<>();
-        for (int kind = 0; kind < 3; kind++) {
-            columns.add(columnsOf(given, kind));
-        }
-        int[] counts = new int[12];
-        for (int[] x : columns.get(0)) {
-            setColumn(counts, 0, x);
-            for (int[] y : columns.get(1)) {
-                setColumn(counts, 1, y);
-                if (!canStillHold(given, counts)) {
-                    continue;
-                }
-                for (int[] z : columns.get(2)) {
-                    if (++steps > patience) {
-                        throw new TooHard();
-                    }
-                    setColumn(counts, 2, z);
-                    if (given.stream().allMatch(n -> holds(n, counts)) && !visitor.goOn(counts)) {
-                        return;
-                    }
-                }
-            }
-        }
-    }
-
-    private List<int[]> columnsOf(List<int[]> given, int kind) {
-        List<int[]> fitting = new ArrayList<>();
-        int values = most + 1;
-        int[] counts = new int[12];
-        for (int i = 0; i < values * values * values * values; i++) {
-            int[] column = {i % values, i / values % values, i / values / values % values, i / values / values / values};
-            setColumn(counts, kind, column);
-            if (given.stream().allMatch(n -> fitsColumn(n, counts, kind))) {
-                fitting.add(column);
-            }
-        }
-        return fitting;
-    }
-
-    private static boolean fitsColumn(int[] n, int[] counts, int kind) {
-        return switch (n[0]) {
-            case 0 -> n[2] != kind || holds(n, counts);
-            case 1 -> counts[3 * n[1] + kind] <= n[3];
-            case 6 -> n[2] != kind || n[4] != kind || holds(n, counts);
-            default -> holdsOfKind(n, counts, kind);
-        };
-    }
-
-    /** Whether the counts of the kinds x and y leave a way for the sizes and for what compares x with y. */
-    private boolean canStillHold(List<int[]> given, int[] counts) {
-        for (int[] n : given) {
-            if (n[0] == 6 && n[2] < 2 && n[4] < 2 && !holds(n, counts)) {
-                return false;
-            }
-            if (n[0] == 1) {
-                int soFar = counts[3 * n[1]] + counts[3 * n[1] + 1];
-                if (soFar > n[3] || soFar + most < n[2]) {
-                    return false;
-                }
-            }
-        }
-        return true;
-    }
-
-    private static void setColumn(int[] counts, int kind, int[] column) {
-        for (int bag = 0; bag < 4; bag++) {
-            counts[3 * bag + kind] = column[bag];
-        }
     }
 }
